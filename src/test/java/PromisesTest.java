@@ -279,6 +279,7 @@ public final class PromisesTest {
         x.cue(4, 0, 0, 0);
         x.cue(6, 0, 0, 1);
         x.goal(3, 0);
+        x.goal(0, 0);
         x.pass(5);
         due("the second that was", x.begin(), 5);
         int[] counts = {0, 7, 7, 0, 0, 0, NONE, 0, 0, 3, 9};
@@ -301,6 +302,15 @@ public final class PromisesTest {
         due("the same again", x.count(3), 5);
         due("played", x.ofSound(0, 0, 3), 2);
         due("as often, in the order", x.played(0, 2), 2);
+        due("from the first cue on", x.ofCue(0, 4), 1);
+        due("a sound and a door again", x.loud(3), 50 + 20 * 60 / 50);
+        x.begin();
+        x.takeOut(0);
+        x.takeOut(0);
+        x.set(RadioCues.LOUD, 40);
+        x.pass(2);
+        due("what was heard ahead of it does not count", x.count(7), 0);
+        due("what was heard ahead of it does not count", x.count(6), 0);
     }
 
     private static void passCues() {
@@ -357,6 +367,13 @@ public final class PromisesTest {
         due("not below", x.ofChannel(2, 0), 5);
         due("rounded down", x.loud(6), 9);
         due("other channels stand", x.ofChannel(1, 0), 50);
+        for (int k = 0; k < 4; k++) {
+            x.goal(k, 20 + k);
+        }
+        x.pass(1);
+        for (int k = 0; k < 4; k++) {
+            due("each channel by itself", x.ofChannel(k, 0), 20 + k);
+        }
     }
 
     private static void passWinding() {
@@ -601,6 +618,24 @@ public final class PromisesTest {
         due("what", x.count(-1), BAD_VALUE);
         due("what", x.count(15), BAD_VALUE);
         fresh(16);
+        x.set(RadioCues.SLAM, 1);
+        x.set(RadioCues.LOUD, 10);
+        for (int n = 0; n < 5; n++) {
+            x.cue(n, 1, 0, 11 + n);
+        }
+        x.pass(2);
+        due("louder by one", x.count(6), 1);
+        due("louder by one than LOUD", x.count(7), 2);
+        x.pass(3);
+        x.undo();
+        due("seconds that are not over any more", x.count(6), 1);
+        due("seconds that are not over any more", x.count(7), 2);
+        x.save(0);
+        x.pass(3);
+        x.restore(0);
+        due("seconds that are not over any more", x.count(6), 1);
+        due("seconds that are not over any more", x.count(7), 2);
+        fresh(16);
         x.goal(0, 1);
         x.goal(0, 1);
         due("can be undone", x.count(14), 2);
@@ -715,6 +750,13 @@ public final class PromisesTest {
         due("what is missed already does not count", x.leastWind(), 1);
         x.cue(60, 0, 0, 0);
         due("a reel that plays", x.leastWind(), NONE);
+        for (int way = 1; way <= 21; way++) {
+            fresh(19);
+            x.sound(2, way, 9);
+            x.sound(2, 1, 9);
+            x.cue(1, 0, 2, 1);
+            due("a way of " + way + " in one second", x.leastWind(), way > 20 ? NONE : way);
+        }
     }
 
     private static void ifMoved() {
@@ -742,7 +784,15 @@ public final class PromisesTest {
         due("ahead of now", x.ifMoved(3, 2), NOT_POSSIBLE);
         due("only the rest", x.ifMoved(3, 3), 1);
         due("only the rest", x.ifMoved(3, 12), 0);
+        x.begin();
+        due("behind the others of second 0", x.ifMoved(3, 0), 2);
+        due("to the first rank, one missed each time", aheadOfTwo(), 3);
         due("order of ranks", rankMatters(), 1);
+    }
+
+    private static int aheadOfTwo() {
+        x.takeOut(0);
+        return x.ifMoved(0, 0) + x.ifMoved(1, 0) + x.ifMoved(2, 0);
     }
 
     /** Two cues of one second: moved to its own second, the first one comes behind the other. */
@@ -781,6 +831,8 @@ public final class PromisesTest {
         x.pass(1);
         due("over", x.readyIn(0, 1), 0);
         due("over", x.readyIn(0, 0), 3);
+        x.set(RadioCues.WIND, 1);
+        due("slowly", x.readyIn(0, 0), 9);
         due("no reel", x.readyIn(-1, 0), NO_SUCH);
         due("no reel", x.readyIn(4, 0), NO_SUCH);
         due("no sound", x.readyIn(0, 3), NO_SUCH);
@@ -968,6 +1020,7 @@ public final class PromisesTest {
         due("goal", x.ofChannel(0, 1), 2);
     }
 
+    /** The state ahead of each change comes back, change by change. */
     private static void undoEachChange() {
         fresh(26);
         x.sound(0, 5, 50);
@@ -975,27 +1028,36 @@ public final class PromisesTest {
         x.cue(3, 1, 1, 9);
         x.pass(4);
         x.cue(8, 1, 1, 9);
-        String before = all();
-        x.set(RadioCues.LOUD, 400);
-        x.sound(0, 1, 1);
-        x.takeOut(2);
-        x.goal(1, 9);
-        x.pass(3);
-        x.begin();
-        for (int n = 0; n < 6; n++) {
-            x.undo();
+        x.cue(9, 2, 2, 0);
+        for (int first = 0; first + 6 <= 12; first++) {
+            String[] before = new String[6];
+            for (int n = 0; n < 6; n++) {
+                before[n] = all();
+                due("change " + (first + n) + " is none", change(first + n) >= 0 ? 1 : 0, 1);
+            }
+            for (int n = 5; n >= 0; n--) {
+                x.undo();
+                same("change " + (first + n) + " is undone", before[n]);
+            }
+            change(11);
         }
-        same("six changes are undone", before);
-        x.cue(9, 0, 0, 0);
-        x.move(3, 10);
-        x.save(0);
-        x.pass(9);
-        x.restore(0);
-        x.pass(9);
-        for (int n = 0; n < 5; n++) {
-            x.undo();
+    }
+
+    private static int change(int number) {
+        switch (number) {
+            case 0: return x.set(RadioCues.LOUD, 40);
+            case 1: return x.sound(0, 1, 1);
+            case 2: return x.takeOut(2);
+            case 3: return x.goal(1, 9);
+            case 4: return x.pass(2);
+            case 5: x.save(1); return x.begin();
+            case 6: return x.cue(30, 1, 3, 7);
+            case 7: return x.move(3, 31);
+            case 8: type("d31:2*8;g2"); return x.carryOut();
+            case 9: return x.restore(1);
+            case 10: return x.pass(1);
+            default: return x.goal(0, (x.ofChannel(0, 1) + 7) % 101);
         }
-        same("five more are undone", before);
     }
 
     private static String all() {
@@ -1084,6 +1146,15 @@ public final class PromisesTest {
         same("all is back", before);
         x.pass(4);
         due("it plays on", x.ofReel(0, 1), 1);
+        fresh(28);
+        x.save(1);
+        x.cue(0, 1, 0, 5);
+        x.pass(1);
+        x.restore(1);
+        x.cue(1, 1, 0, 6);
+        due("a cue behind a restore is to come", x.ofCue(0, 4), 0);
+        x.pass(2);
+        due("and comes", x.loud(1), 6);
     }
 
     /** A call that returns an error changes nothing, and records nothing. */
