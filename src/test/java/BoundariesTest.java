@@ -461,6 +461,11 @@ public final class BoundariesTest {
         }
         x.pass(1);
         due("silent", x.loud(0), 0);
+        x.cue(1, 1, 0, 7);
+        x.begin();
+        x.move(0, 0);
+        x.pass(1);
+        due("but those of the play anew, from second 0 on", x.loud(0), 7);
     }
 
     private static void beginAgain() {
@@ -727,6 +732,22 @@ public final class BoundariesTest {
             due("how often " + rank, x.played(rank, 2), 1);
         }
         due("24 is the most", x.played(24, 0), NO_SUCH);
+        says("Promise 13: each once, however often it was played");
+        x = fresh();
+        x.sound(0, 1, 9);
+        x.sound(1, 1, 9);
+        int[][] calls = {{0, 0}, {2, 0}, {4, 1}, {6, 0}, {8, 1}};
+        for (int[] call : calls) {
+            x.cue(call[0], 0, call[1], 0);
+        }
+        int[] ofFirst = {1, 2, 2, 3, 3};
+        int[] ofSecond = {NO_SUCH, NO_SUCH, 1, 1, 2};
+        for (int n = 0; n < 5; n++) {
+            x.pass(2);
+            due("how often the first one", x.played(0, 2), ofFirst[n]);
+            due("how often the second one", x.played(1, 2), ofSecond[n]);
+            due("not three", x.played(2, 0), NO_SUCH);
+        }
     }
 
     private static void ofChannel() {
@@ -1052,6 +1073,10 @@ public final class BoundariesTest {
             due("the middle one to " + second, x.ifMoved(1, second), missed[second]);
             due("as move() and rest() tell it", movedRest(second), x.ifMoved(1, second));
         }
+        due("the last one to the second 0", x.ifMoved(2, 0), 2);
+        x.takeOut(0);
+        due("to the rank 0, then the other one is missed", x.ifMoved(1, 0) + x.ifMoved(0, 0), 1);
+        x.undo();
         due("the first one behind the second one", x.ifMoved(0, 2), 2);
         due("the first one behind all", x.ifMoved(0, 20), 1);
         due("two in the second 5", x.ifMoved(1, 5), 1);
@@ -1387,6 +1412,20 @@ public final class BoundariesTest {
             due("the goal", x.ofChannel(0, 1), goal);
         }
         due("none is left", x.count(14), 0);
+        says("Promise 26: the first state that is recorded, behind others that were undone");
+        due("a change", x.goal(0, 80), 4);
+        due("undone", x.undo(), 0);
+        due("the goal", x.ofChannel(0, 1), 4);
+        due("another change", x.goal(0, 90), 4);
+        due("undone", x.undo(), 0);
+        due("the goal", x.ofChannel(0, 1), 4);
+        due("none is left", x.undo(), NOT_POSSIBLE);
+        x = fresh();
+        for (int n = 1; n <= 3; n++) {
+            x.goal(1, n);
+            due("the only change", x.undo(), 0);
+            due("as a new object", x.ofChannel(1, 1), 50);
+        }
     }
 
     private static void eachIsAChange() {
@@ -1612,5 +1651,22 @@ public final class BoundariesTest {
         due("is at its second", x.ofCue(0, 0), 9);
         due("and to come", x.ofCue(0, 4), 0);
         due("the setting", x.count(10), 2);
+        says("Promise 28: what comes behind restore() or undo() bears nothing of what was there");
+        for (int way = 0; way < 2; way++) {
+            x = fresh();
+            x.save(0);
+            due("all in one change", Bounds.carriedOut(x, "r0+2*50;s0:00;d0:1*40;g2"), 4);
+            due("played", x.ofSound(0, 0, 3), 1);
+            due("back", way == 0 ? x.restore(0) : x.undo(), 0);
+            due("a sound", x.sound(0, 3, 30), 0);
+            due("it was not played", x.ofSound(0, 0, 3), 0);
+            due("a cue", x.cue(1, 1, 2, 20), 0);
+            due("it is to come", x.ofCue(0, 4), 0);
+            due("none was played", x.played(0, 0), NO_SUCH);
+            due("no second is over", x.loud(0), NO_SUCH);
+            x.pass(2);
+            due("silent", x.loud(0), 0);
+            due("the new door alone", x.loud(1), 20);
+        }
     }
 }

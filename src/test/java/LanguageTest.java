@@ -1,4 +1,7 @@
 import java.io.IOException;
+import java.lang.reflect.Field;
+import java.lang.reflect.Method;
+import java.lang.reflect.Modifier;
 import java.nio.file.Files;
 import java.nio.file.Path;
 import java.util.ArrayList;
@@ -14,6 +17,8 @@ public final class LanguageTest {
     private static final Set<String> PUBLIC = Set.of("set", "sound", "cue", "takeOut", "move", "goal", "begin", "pass", "ofCue",
         "ofReel", "ofSound", "played", "ofChannel", "loud", "count", "rest", "becomes", "leastWind", "ifMoved", "readyIn", "put",
         "wipe", "fault", "carryOut", "undo", "save", "restore");
+    private static final Set<String> CONSTANTS = Set.of("NO_SUCH", "BAD_VALUE", "BAD_TEXT", "TOO_MANY", "NOT_POSSIBLE", "NONE",
+        "WIND", "SLAM", "FADE", "LOUD");
     private static final Set<String> LIBRARY = Set.of("System.arraycopy", "Math.max", "Math.min", "Math.abs");
     private static int wrong = 0;
 
@@ -22,6 +27,7 @@ public final class LanguageTest {
     public static void main(String[] args) throws IOException {
         String code = withoutComments(Files.readString(SOURCE));
         face(code);
+        members();
         words(code);
         library(code);
         lengths(code);
@@ -70,6 +76,37 @@ public final class LanguageTest {
         }
         for (String line : all("\n    ((?!    )(?!public|private|}|/)\\S[^\n]*)", code)) {
             fault(1, "neither public nor private: " + line);
+        }
+    }
+
+    /** The members that the compiled class shows: those of the document's face, and no other. */
+    private static void members() {
+        Class<RadioCues> face = RadioCues.class;
+        if (face.getModifiers() != (Modifier.PUBLIC | Modifier.FINAL) || face.getDeclaredConstructors().length != 1) {
+            fault(1, "the class is public and final, with one constructor");
+        }
+        for (Method method : face.getDeclaredMethods()) {
+            boolean open = !Modifier.isPrivate(method.getModifiers()) && !method.isSynthetic();
+            if (open != PUBLIC.contains(method.getName()) || open && method.getModifiers() != Modifier.PUBLIC) {
+                fault(1, "the method " + method);
+            }
+        }
+        int constants = Modifier.PUBLIC | Modifier.STATIC | Modifier.FINAL;
+        for (Field field : face.getDeclaredFields()) {
+            boolean open = !Modifier.isPrivate(field.getModifiers()) && !field.isSynthetic();
+            if (open != CONSTANTS.contains(field.getName()) || open && field.getModifiers() != constants) {
+                fault(1, "the field " + field);
+            }
+        }
+        for (Class<?> inside : face.getDeclaredClasses()) {
+            if (!Modifier.isStatic(inside.getModifiers()) || Modifier.isPublic(inside.getModifiers())) {
+                fault(2, "the class inside " + inside);
+            }
+            for (Method method : inside.getDeclaredMethods()) {
+                if (PUBLIC.contains(method.getName())) {
+                    fault(1, "bears the name of a public one: " + method);
+                }
+            }
         }
     }
 

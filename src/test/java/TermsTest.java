@@ -654,6 +654,26 @@ public final class TermsTest {
             x.pass(1);
             due("behind second " + second, x.ofChannel(0, 2), doors[second]);
         }
+        x = fresh();
+        x.set(FADE, 100);
+        x.goal(3, 100);
+        int[] slams = {4, 1, 3, 2};
+        int[] loudnesses = {1, 20, 3, 40};
+        for (int n = 0; n < 4; n++) {
+            x.cue(n, 1, n, loudnesses[n]);
+        }
+        int[] heard = {1, 21, 4, 1 + 3 + 80, 3 + 80, 0};
+        int[] sets = {1, 1, 5, 12, 0, 0};
+        for (int second = 0; second < heard.length; second++) {
+            x.set(SLAM, second < 4 ? slams[second] : 9);
+            x.pass(1);
+            due("those that are left, each on its channel: second " + second, x.loud(second), heard[second]);
+            int set = 0;
+            for (int k = 0; k < 4; k++) {
+                set |= x.ofChannel(k, 2) << k;
+            }
+            due("the channels behind second " + second, set, sets[second]);
+        }
     }
 
     private static void winding() {
