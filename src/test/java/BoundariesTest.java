@@ -49,6 +49,7 @@ public final class BoundariesTest {
         carryOut();
         undo();
         eachIsAChange();
+        sixChanges();
         noneIsAChange();
         save();
         restore();
@@ -1478,6 +1479,49 @@ public final class BoundariesTest {
             case 7: return x.pass(1);
             case 8: return Bounds.carriedOut(x, "g0;g1");
             default: return x.restore(0);
+        }
+    }
+
+    private static void sixChanges() {
+        says("Promise 26: undoes the latest change: everything is as it was before it, change by change");
+        for (int first = 0; first <= 6; first++) {
+            for (int undone = 1; undone <= 6; undone++) {
+                int from = first;
+                int left = 6 - undone;
+                int times = undone;
+                Bounds.same("changes " + first + " to " + (first + 5) + ", " + undone + " undone", x -> {
+                    sixFrom(x, from, 6);
+                    for (int n = 0; n < times; n++) {
+                        x.undo();
+                    }
+                }, x -> sixFrom(x, from, left), false);
+            }
+        }
+    }
+
+    /** Some of six changes behind a stage, the first ones. */
+    private static void sixFrom(RadioCues x, int first, int changes) {
+        Stages.middle(x);
+        x.wipe();
+        for (int n = first; n < first + changes; n++) {
+            due("the change " + n + " is one", oneOfTwelve(x, n) >= 0 ? 1 : 0, 1);
+        }
+    }
+
+    private static int oneOfTwelve(RadioCues x, int which) {
+        switch (which) {
+            case 0: return x.set(LOUD, 40);
+            case 1: return x.sound(0, 1, 1);
+            case 2: return x.takeOut(6);
+            case 3: return x.goal(1, 9);
+            case 4: return x.pass(2);
+            case 5: x.save(1); return x.begin();
+            case 6: return x.cue(30, 1, 3, 7);
+            case 7: return x.move(x.count(1) - 1, 31);
+            case 8: return Bounds.carriedOut(x, "d31:2*8;g2");
+            case 9: return x.restore(0);
+            case 10: return x.pass(11);
+            default: return x.set(SLAM, 9);
         }
     }
 
