@@ -485,8 +485,13 @@ public final class BoundariesTest {
         x.pass(1);
         due("they stay", x.ofChannel(0, 0), 50);
         says("Promise 8: settings stay");
-        for (int what = 9; what <= 12; what++) {
-            due("count(" + what + ")", x.count(what), new int[] {4, 2, 100, 150}[what - 9]);
+        int[] settings = {1, 9, 33, 400};
+        for (int setting = 0; setting < 4; setting++) {
+            x.set(setting, settings[setting]);
+        }
+        x.begin();
+        for (int setting = 0; setting < 4; setting++) {
+            due("the setting " + setting, x.count(9 + setting), settings[setting]);
         }
         says("Promise 8: nothing was heard");
         x = Bounds.made(Stages::later);
