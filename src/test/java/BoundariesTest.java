@@ -916,6 +916,23 @@ public final class BoundariesTest {
         due("from 999", x.rest(0), 60);
         due("becomes", x.becomes(0), 1);
         due("leastWind", x.leastWind(), 1);
+        // Only the winding that readyIn() tells of can last beyond the bound.
+        x = fresh();
+        x.set(WIND, 1);
+        for (int n = 0; n < 6; n++) {
+            x.sound(1, 60, 9);
+        }
+        Bounds.pass(x, 899);
+        for (int now = 899; now < 902; now++) {
+            due("readyIn, from " + now, x.readyIn(1, 5), 300);
+            x.pass(1);
+        }
+        Bounds.pass(x, 298);
+        due("now", x.count(0), 1200);
+        due("readyIn, from 1200", x.readyIn(1, 5), 300);
+        due("readyIn, from 1200", x.readyIn(1, 1), 60);
+        due("rest, from 1200", x.rest(0), 0);
+        due("leastWind, from 1200", x.leastWind(), 1);
     }
 
     private static void restSeconds() {

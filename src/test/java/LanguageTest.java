@@ -14,6 +14,7 @@ import java.util.regex.Pattern;
 /** What can be seen of ../shared/LANGUAGE.md in the source itself, by the numbers of its rules. It runs in the project's folder. */
 public final class LanguageTest {
     private static final Path SOURCE = Path.of("src/main/java/RadioCues.java");
+    private static final Path DOCUMENT = Path.of("../shared/DOC.md");
     private static final Set<String> PUBLIC = Set.of("set", "sound", "cue", "takeOut", "move", "goal", "begin", "pass", "ofCue",
         "ofReel", "ofSound", "played", "ofChannel", "loud", "count", "rest", "becomes", "leastWind", "ifMoved", "readyIn", "put",
         "wipe", "fault", "carryOut", "undo", "save", "restore");
@@ -27,6 +28,7 @@ public final class LanguageTest {
     public static void main(String[] args) throws IOException {
         String code = withoutComments(Files.readString(SOURCE));
         face(code);
+        faceOfDocument(code);
         members();
         words(code);
         library(code);
@@ -76,6 +78,20 @@ public final class LanguageTest {
         }
         for (String line : all("\n    ((?!    )(?!public|private|}|/)\\S[^\n]*)", code)) {
             fault(1, "neither public nor private: " + line);
+        }
+    }
+
+    /** Each line of the document's face stands in the source, a method with its body; the constructor has no type. */
+    private static void faceOfDocument(String code) throws IOException {
+        Matcher face = Pattern.compile("```java\n(public final class .*?)\n}\n```", Pattern.DOTALL).matcher(Files.readString(DOCUMENT));
+        List<String> lines = face.find() ? face.group(1).lines().toList() : List.of();
+        if (lines.size() != PUBLIC.size() + 4) {
+            fault(1, "the document's face has " + lines.size() + " lines");
+        }
+        for (String line : lines) {
+            if (!code.contains("\n" + line + "\n") && !code.contains("\n" + line.replaceFirst("\\);$", ") {") + "\n")) {
+                fault(1, "does not stand as in the document: " + line.strip());
+            }
         }
     }
 
